@@ -265,7 +265,9 @@ public final class SixCounts {
 
   public int periodLength(int account) throws IndexOutOfBoundsException {
     requireAccount(account);
-    return periodOf(account);
+    int denominator = now.denominatorOf(account);
+    int head = Behind.head(denominator, now.base);
+    return Behind.periodByDividing(now.restOf(account), denominator, now.base, head);
   }
 
   public int periodByOrder(int account) throws IndexOutOfBoundsException {
@@ -303,8 +305,9 @@ public final class SixCounts {
   public int writtenLength(int account) throws IndexOutOfBoundsException {
     requireAccount(account);
     int length = WholeDigits.count(now.wholeOf(account), now.base);
-    int head = Behind.head(now.denominatorOf(account), now.base);
-    int period = periodOf(account);
+    int denominator = now.denominatorOf(account);
+    int head = Behind.head(denominator, now.base);
+    int period = Behind.periodByDividing(now.restOf(account), denominator, now.base, head);
     if (head + period > 0) {
       length += 1 + head;
     }
@@ -497,12 +500,8 @@ public final class SixCounts {
 
   // ---- what the calls ask for
 
-  private static boolean isAccount(int account) {
-    return account >= 0 && account < ACCOUNTS;
-  }
-
   private static void requireAccount(int account) {
-    if (!isAccount(account)) {
+    if (account < 0 || account >= ACCOUNTS) {
       throw new IndexOutOfBoundsException("no such account");
     }
   }
@@ -608,16 +607,10 @@ public final class SixCounts {
     }
     // Ahead of this place stand two characters that are no digits: "." and "(".
     int digitPlace = place - 2;
-    if (digitPlace < head + periodOf(account)) {
+    if (digitPlace < head + Behind.periodByDividing(rest, denominator, now.base, head)) {
       return codeOfDigit(Behind.digit(rest, denominator, now.base, digitPlace));
     }
     return ')';
-  }
-
-  private int periodOf(int account) {
-    int denominator = now.denominatorOf(account);
-    int head = Behind.head(denominator, now.base);
-    return Behind.periodByDividing(now.restOf(account), denominator, now.base, head);
   }
 
   // ---- entries
@@ -886,6 +879,10 @@ public final class SixCounts {
       }
     }
 
+    private static boolean isAccount(int account) {
+      return account >= 0 && account < ACCOUNTS;
+    }
+
     void takeFrom(State other) {
       base = other.base;
       stopPart = other.stopPart;
@@ -971,22 +968,26 @@ public final class SixCounts {
 
     void form(int one, int two, int base) {
       int columns = Math.max(WholeDigits.count(one, base), WholeDigits.count(two, base));
-      int carry = 0;
+      long restOne = one;
+      long restTwo = two;
+      long carry = 0;
       int chain = 0;
       carryCount = 0;
       longest = 0;
       for (int column = 0; column < columns && column < MOST_WHOLE_DIGITS; column++) {
-        int together = WholeDigits.byDividing(one, base, column)
-            + WholeDigits.byDividing(two, base, column) + carry;
+        long together = Numbers.left(restOne, base) + Numbers.left(restTwo, base) + carry;
         carry = together >= base ? 1 : 0;
         chain = carry == 1 ? chain + 1 : 0;
-        carryCount += carry;
+        carryCount += chain > 0 ? 1 : 0;
         longest = Math.max(longest, chain);
         digits[column] = (int) Numbers.left(together, base);
+        restOne = Numbers.quotient(restOne, base);
+        restTwo = Numbers.quotient(restTwo, base);
       }
-      length = columns + carry;
+      length = columns;
       if (carry == 1 && columns < digits.length) {
         digits[columns] = 1;
+        length = columns + 1;
       }
     }
 

@@ -268,7 +268,7 @@ final class Model {
     return f.why();
   }
 
-  /** Whole part, head and period, each shifted to its place: x.h(p) = x + h/b^m + p/(b^m(b^n-1)). */
+  /** Each piece shifted to its place: w.h(p) is w + h / b^m + p / (b^m (b^n - 1)). */
   private Fraction read(String number) {
     String[] pieces = number.replace(")", "").split("[.(]", -1);
     int point = number.indexOf('.');

@@ -106,7 +106,8 @@ public final class ModelTest {
       case "setBase0", "readIn1":
         return 2 + random.nextInt(15);
       case "setFraction1":
-        return random.nextInt(random.nextInt(3) == 0 ? 1000000000 : random.nextInt(2) == 0 ? 99999 : 99);
+        int[] mosts = {1000000000, 99999, 99};
+        return random.nextInt(mosts[random.nextInt(mosts.length)]);
       case "setFraction2":
         return random.nextInt(3) == 0
             ? 1 + random.nextInt(999) : DENOMINATORS[random.nextInt(DENOMINATORS.length)];
