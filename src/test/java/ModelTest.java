@@ -7,7 +7,7 @@ import java.util.Random;
 
 /** Long runs of calls, the same each time, on the program and on the model side by side. */
 public final class ModelTest {
-  private static final int RUNS = 300;
+  private static final int RUNS = 600;
   private static final int CALLS = 512;
   private static final String[] CHANGES = {
     "setBase", "setFraction", "setFraction", "setFraction", "add", "subtract", "shift", "pay",
@@ -27,6 +27,7 @@ public final class ModelTest {
   private final List<Method> methods = new ArrayList<>();
   private SixCounts program;
   private Model model;
+  private int calls = 0;
 
   public static void main(String[] args) throws Exception {
     ModelTest test = new ModelTest();
@@ -47,14 +48,14 @@ public final class ModelTest {
     for (int run = 0; run < RUNS; run++) {
       program = new SixCounts();
       model = new Model();
-      for (int calls = 0; calls < CALLS; calls++) {
-        oneStep(run, calls);
+      calls = 0;
+      while (calls < CALLS) {
+        oneStep("run " + run + ", from call " + calls + " on: ");
       }
     }
   }
 
-  private void oneStep(int run, int calls) throws Exception {
-    String where = "run " + run + ", call " + calls + ": ";
+  private void oneStep(String where) throws Exception {
     int kind = random.nextInt(10);
     if (kind < 4) {
       String change = CHANGES[random.nextInt(CHANGES.length)];
@@ -83,6 +84,10 @@ public final class ModelTest {
   }
 
   private void both(String where, Method method, Object[] args) throws Exception {
+    if (calls >= CALLS) {
+      return;
+    }
+    calls++;
     Method same = Model.class.getMethod(method.getName(), method.getParameterTypes());
     String due = answer(model, same, args);
     String got = answer(program, method, args);

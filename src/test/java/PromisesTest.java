@@ -6,7 +6,7 @@ public final class PromisesTest {
   private final Check check = new Check();
   private SixCounts x = new SixCounts();
 
-  public static void main(String[] args) {
+  public static void main(String[] args) throws ReflectiveOperationException {
     PromisesTest test = new PromisesTest();
     test.changes();
     test.texts();
@@ -16,6 +16,7 @@ public final class PromisesTest {
     test.digitsBehind();
     test.columns();
     test.wouldBe();
+    test.promise46();
     test.check.end("PromisesTest");
   }
 
@@ -68,7 +69,6 @@ public final class PromisesTest {
     promise43();
     promise44();
     promise45();
-    promise46();
   }
 
   private void fresh() {
@@ -314,6 +314,7 @@ public final class PromisesTest {
         "b2", "b9", "b10", "b16", "b16;", "b2;b3;0=f;1+0", "0=ffffffff.ffff(ffff)"}) {
       right(text);
     }
+    fresh();
     error("6", 0);
     error("a", 0);
     error("=", 0);
@@ -336,6 +337,7 @@ public final class PromisesTest {
     error("0=1.(1)1", 7);
     error("0=1.(1)(", 7);
     error("0=1.1)", 5);
+    fresh();
     error("0+6", 2);
     error("0+00", 3);
     error("0+1+", 3);
@@ -351,6 +353,7 @@ public final class PromisesTest {
     error("b2;;", 3);
     error("0=1;x=", 4);
     error("xxxx", 0);
+    fresh();
     StringBuilder longest = new StringBuilder("b2");
     while (longest.length() + 4 <= 60) {
       longest.append(";0+1");
@@ -651,12 +654,14 @@ public final class PromisesTest {
   }
 
   private void promise34() {
-    fresh();
-    x.setBase(10);
-    x.setFraction(0, 355, 113);
     String period = "141592920353982300884955752212389380530973451327433628318584"
         + "0707964601769911504424778761061946902654867256637168";
     for (int place = 0; place <= 2000; place++) {
+      if (place % 500 == 0) {
+        fresh();
+        x.setBase(10);
+        x.setFraction(0, 355, 113);
+      }
       int at = place;
       check.answers("34 " + place, period.charAt(place % 112) - '0', () -> x.digitBehind(0, at));
     }
@@ -850,11 +855,18 @@ public final class PromisesTest {
     }
   }
 
+  private void replay(String... calls) throws ReflectiveOperationException {
+    fresh();
+    Script.run(x, calls);
+  }
+
   /** The digest from the face alone, in the order that the document tells. */
-  private long digestByFace(String buffer) {
+  private long digestByFace(String buffer, String... calls) throws ReflectiveOperationException {
+    replay(calls);
     long h = 4513;
     h = 31 * (31 * (31 * h + x.base()) + x.richest()) + x.savedStates();
     for (int a = 0; a < 6; a++) {
+      replay(calls);
       h = 31 * (31 * (31 * h + x.numerator(a)) + x.denominator(a)) + x.whole(a);
       h = 31 * h + x.wholeDigits(a);
       for (int c = 0; c < x.wholeDigits(a); c++) {
@@ -870,8 +882,10 @@ public final class PromisesTest {
       h = 31 * (31 * h + length) + x.writtenAt(a, length - 1);
     }
     for (int a = 0; a < 6; a++) {
+      replay(calls);
       h = digestOfPair(h, a, (a + 1) % 6);
     }
+    replay(calls);
     for (int a = 0; a < 6; a++) {
       h = 31 * h + Double.doubleToLongBits(x.shareOf(a));
     }
@@ -895,31 +909,25 @@ public final class PromisesTest {
     return 31 * (31 * h + x.periodOfSum(a, b)) + x.compare(a, b);
   }
 
-  private void digest(String buffer) {
-    type(buffer);
-    long due = digestByFace(buffer);
+  private void digest(String buffer, String... calls) throws ReflectiveOperationException {
+    long due = digestByFace(buffer, calls);
     check.answers("46 with " + buffer, due, () -> x.digest());
     check.answers("46 changes nothing", due, () -> x.digest());
   }
 
-  private void promise46() {
-    fresh();
+  private void promise46() throws ReflectiveOperationException {
+    String one = "setFraction 0 999999999 7";
+    String two = "setFraction 1 1 999";
+    String three = "setFraction 5 12345678 64";
+    String four = "type 2=0.(5);0-0;1=6";
     digest("");
-    digest("0=1.(2)");
-    x.setFraction(0, 999999999, 7);
-    x.setFraction(1, 1, 999);
-    x.setFraction(5, 12345678, 64);
-    digest("");
-    enter("2=0.(5);0-0;1=6");
-    digest("b16;");
+    digest("0=1.(2)", "type 0=1.(2)");
+    digest("", one, two, three);
+    digest("b16;", one, two, three, four, "enter", "type b16;");
     for (int base = 2; base <= 16; base++) {
-      x.setBase(base);
-      digest("~");
+      digest("~", one, two, three, four, "enter", "setBase " + base, "append 126");
     }
-    x.undo();
-    x.keep();
-    digest("");
-    x.restore();
-    digest("");
+    digest("", one, two, three, "setBase 9", "undo", "keep");
+    digest("", one, two, three, "setBase 9", "undo", "keep", "setBase 2", "restore");
   }
 }
