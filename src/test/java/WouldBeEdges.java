@@ -153,7 +153,7 @@ final class WouldBeEdges extends Edges {
     due(lengthOfOrder(2, 729 * 961), () -> x.periodOfSum(2, 3));
     int[][] rows = {
       // base and two denominators that have no factor in common with it, or with each other
-      {2, 343, 625}, {3, 32, 1}, {3, 512, 961}, {5, 512, 729}, {7, 128, 1}, {7, 2, 999},
+      {2, 343, 625}, {3, 2, 1}, {3, 32, 1}, {3, 512, 961}, {5, 512, 729}, {7, 128, 1}, {7, 2, 999},
       {9, 256, 25}, {10, 999, 1}, {11, 512, 625}, {13, 8, 997}, {15, 512, 343}, {16, 729, 625}
     };
     for (int[] row : rows) {
