@@ -58,7 +58,8 @@ final class ArgumentEdges extends Edges {
   }
 
   private void outside(Doc.Face face, int index) throws ReflectiveOperationException {
-    says(doc.promiseOf(face.name()), "Throws IndexOutOfBoundsException if there is no such account");
+    int promise = doc.promiseOf(face.name());
+    says(promise, "Throws IndexOutOfBoundsException if there is no such account");
     List<String> due = List.of("throws.IndexOutOfBoundsException");
     Script.run(x, BEFORE);
     long before = x.digest();
